@@ -130,6 +130,10 @@ public final class PromiseTest {
         Check.tell(x, "zz").spaces();
         due("4: THE TEXT is emptied by a refusal, too", x.count(10), 0);
         due("4: a refusal is not kept", x.count(8), 1);
+        x.writes(0, 0, 9);
+        Check.tell(x, "0011").spaces();
+        due("4: undone", x.undo(), 2);
+        due("4: what was ahead of it stays", x.page(0, 0) * 10 + x.count(0), 91);
         due("4: a refusal changes nothing", x.count(0), 1);
     }
 
@@ -196,14 +200,20 @@ public final class PromiseTest {
             {"n<n<", -4}, {"n<n=n", -4}, {"n<n+n>n", -6}, {"(n<n<n)", -5}, {"(n<n)<n<n", -8}, {"1000", -4}, {"12n", -3},
             {"n1", -2}, {"nn", -2}, {"1)", -2}, {"()", -2}, {"(1", -3}, {"(((((1", -5}, {"1(", -2}, {"(1)(1)", -4},
             {"(1)1", -4}, {"n*/n", -3}, {"n+*n", -3}, {"1 ", -2}, {ones + "+", -41}, {ones + "+1", -41}, {ones + "23", -41},
-            {ones + "2x", -41}, {"x" + ones + ones, -1}, {ones + "n1", -40}, {"n%2", -2}, {"N", -1}, {"n>3\0", -4}};
+            {ones + "2x", -41}, {"x" + ones + ones, -1}, {ones + "n1", -40}, {"n%2", -2}, {"N", -1}, {"n>3\0", -4}, {"((1<2<3))", -6},
+            {"(((1<2<3)))", -7}, {"((((1<2<3))))", -8}, {"(1<2)<(1<2)<1", -12}};
         for (Object[] pair : wrong) {
             due("5: " + pair[0], ruleOf((String) pair[0]), (Integer) pair[1]);
         }
         ShadowSpaces x = Check.with("00");
         Check.rule(x, "42");
         Check.tell(x, "42+").rule();
+        Check.tell(x, "((").rule();
+        Check.tell(x, "1<").rule();
         due("5: a refused text changes nothing", x.space(0, 3), 142);
+        Check.rule(x, "1<2");
+        due("5: nor is anything left of it", x.space(0, 3), 101);
+        Check.rule(x, "42");
         due("5: THE TEXT is emptied", x.count(10), 0);
         due("5: it can't be undone", x.count(8), 1);
         x.undo();
@@ -326,6 +336,9 @@ public final class PromiseTest {
     }
 
     private static void promise10() {
+        ShadowSpaces zero = Check.with("10");
+        Check.told("10: 0 of a PAGER that answers", zero, zero.reads(0, 0), 0, 1);
+        due("10: is HELD, too", zero.object(0, 0), 1);
         ShadowSpaces x = Check.with("0742", "17", "20", "30");
         Check.told("10: HELD", x, x.reads(0, 0), 42, 0);
         Check.told("10: PAGER 0", x, x.reads(0, 7), 0, 1);
@@ -502,6 +515,11 @@ public final class PromiseTest {
         due("11: not kept", x.count(8), before);
         due("11: -3 ahead of -6", x.writes(1, 0, 1), -3);
         due("11: none has to come", x.writes(2, 0, 1), 1);
+        ShadowSpaces one = Check.with("10", "0011");
+        fillFrom(one, 1, 62);
+        due("11: 63 FRAMES", one.count(2), 63);
+        due("11: what is FETCHED into the TOP is one alone", one.writes(0, 0, 1), 1);
+        due("11: 64", one.count(2), 64);
         ShadowSpaces y = Check.with("1011", "0011");
         fillFrom(y, 1, 61);
         due("11: 63 FRAMES", y.count(2), 63);
@@ -509,6 +527,7 @@ public final class PromiseTest {
         due("11: FETCHED and pushed are two", y.writes(0, 3, 1), -5);
         due("11: nothing changes", y.object(0, 0), 1);
         due("11: no WRITES", y.object(y.space(space, 0), 0), 0);
+        due("11: FETCHED below and HELD above are two", y.writes(space, 2, 2), -5);
         due("11: one", y.writes(0, 0, 1), 1);
         due("11: 64", y.count(2), 64);
         due("11: HELD", y.writes(0, 0, 2), 1);
@@ -540,12 +559,16 @@ public final class PromiseTest {
         due("12: COPY", x.object(1, 2), 3);
         due("12: of a COPY", x.forks(3), 5);
         due("12: the same TOP", x.space(5, 0), 2);
+        due("12: who SHARED before SHARES still", x.count(4), 5);
         due("12: there are 6", x.forks(0), -2);
         due("12: there are 6", x.forks(1), -2);
         due("12: none such comes first", x.forks(6), -1);
         due("12: none such", x.forks(-1), -1);
         x.ends(0);
+        int before = x.count(8);
         due("12: the least number", x.forks(2), 0);
+        due("12: kept", x.undo(), before);
+        due("12: undone", x.count(0), 62);
         ShadowSpaces y = Check.with("0011", "10");
         Check.rule(y, "0");
         deepen(y, 0, 22);
@@ -586,6 +609,18 @@ public final class PromiseTest {
         due("13: the older COPY holds the newer one", z.object(0, 2), 2);
         due("13: both are FREED", z.ends(1), 2);
         due("13: nobody's COPY", z.object(0, 2), 24);
+        ShadowSpaces w = Check.with("20", "0011");
+        w.forks(1);
+        w.reads(0, 3);
+        due("13: nothing is AWAITED by what is FREED", w.ends(0) * 10 + w.count(5), 10);
+        due("13: SHARES", w.count(4), 2);
+        w.ends(1);
+        due("13: SHARES no more", w.count(4), 1);
+        w.ends(2);
+        due("13: all is gone", w.count(4), 0);
+        due("13: a new one", Check.tell(w, "20").spaces(), 0);
+        due("13: SHARES not", w.space(0, 1), 0);
+        due("13: AWAITS nothing", w.object(0, 6), 0);
     }
 
     private static void promise14() {
@@ -631,6 +666,9 @@ public final class PromiseTest {
         due("15: X's own", x.page(1, 0), 99);
         due("15: Y's", x.page(1, 1) * 100 + x.page(1, 2), 2233);
         due("15: FRAMES", x.count(2), 3);
+        x.undo();
+        due("15: undone", x.count(1) * 10 + x.count(2), 34);
+        Check.told("15: once more", x, x.tidies(0), 1, 1, 0, 1);
         due("15: none such", x.tidies(1), -1);
         due("15: none such", x.tidies(-1), -1);
         Check.told("15: the ROW stays", x, 0, 0, 1, 0, 1);
@@ -657,6 +695,7 @@ public final class PromiseTest {
         x.writes(0, 0, 2);
         Check.told("15: a BYPASS of what X HOLDS, too", x, x.tidies(0), 1, 0, 1, 1);
         due("15: no SHADOW", x.object(1, 1), 24);
+        Check.told("15: nothing is left to do", x, x.tidies(0), 0, 0, 0, 1);
         due("15: Y stays", x.count(1), 3);
         ShadowSpaces y = Check.with("001122");
         y.forks(0);
@@ -852,6 +891,9 @@ public final class PromiseTest {
         Check.told("21: of one OBJECT", x, x.shared(0, 2), 2, 1);
         Check.told("21: like values are not one FRAME", x, x.shared(0, 1), 0, 0);
         Check.told("21: either way", x, x.shared(2, 0), 2, 1);
+        ShadowSpaces y = Check.with("0011..2233");
+        y.forks(0);
+        Check.told("21: three", y, y.shared(0, 1), 13, 3);
         due("21: like ones", x.shared(0, 0), -1);
         due("21: none such", x.shared(0, 3), -1);
         due("21: none such", x.shared(-1, 0), -1);
@@ -1048,6 +1090,9 @@ public final class PromiseTest {
         x.heard(3, 5);
         due("34: a SPACE that is not there", x.fits(), 0);
         x.forget();
+        x.heard(0, 1);
+        Check.told("34: of an OBJECT", x, x.fits(), 2, 1, 0);
+        x.forget();
         x.forks(0);
         x.writes(0, 0, 1);
         x.heard(3, 0);
@@ -1100,6 +1145,7 @@ public final class PromiseTest {
         due("39: none", x.looks(), -2);
         due("39: the ROW stays", x.count(9), 0);
         x.denies();
+        Check.told("38: all again, though once it was seen", x, x.laws(), 49, 0, 0);
         x.saw(0, 8, 1);
         due("38: no CHAIN has more than a of none", x.laws(), 0);
         x.denies();
