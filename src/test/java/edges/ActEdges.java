@@ -294,6 +294,9 @@ final class ActEdges {
         due("no OBJECT, no FRAME of it", x.count(1) * 10 + x.count(2), 21);
         due("a CHAIN", Build.deepen(Build.calm("0011"), 0, 23).ends(0), 24);
         due("the last", x.ends(1) * 10 + x.count(0), 10);
+        due("none SHARES", x.count(4), 0);
+        due("SPACE 0 told anew", Check.tell(x, "00").spaces(), 0);
+        due("does not SHARE", x.space(0, 1), 0);
         ShadowSpaces y = Build.calm("10");
         y.forks(0);
         y.forks(0);
@@ -374,7 +377,12 @@ final class ActEdges {
         due("23 COLLAPSES", Build.deepen(Build.calm("00"), 0, 23).tidies(0), 23);
         due("both", mixed().tidies(0), 2);
         due("whatever THE RULE is", ruled(Build.deepen(Build.calm("00"), 0, 2), "0").tidies(0), 2);
+        ShadowSpaces twice = mixed();
+        due("the first time", twice.tidies(0), 2);
+        due("the second time: what it does then", twice.tidies(0), 0);
+        due("of the other SPACE", twice.tidies(1), 0);
         says(15, "the ROW: COLLAPSES, BYPASSES, OBJECTS of its CHAIN then.");
+        Sentence.told("behind others", twice, x -> x.tidies(0), 0, 0, 0, 2);
         Sentence.told("both", mixed(), x -> x.tidies(0), 2, 1, 1, 2);
         Sentence.told("none", Build.calm("10"), x -> x.tidies(0), 0, 0, 0, 1);
         ShadowSpaces late = late();
@@ -630,6 +638,13 @@ final class ActEdges {
         }
         x.undo();
         due("no SPACES", x.count(0) + x.count(1) + x.count(2), 0);
+        ShadowSpaces deep = Build.crowd(Build.calm("00"), 0, 24, 60);
+        deep.writes(0, 7, 77);
+        deep.writes(0, 7, 78);
+        deep.undo();
+        due("the last value of the last OBJECT", deep.page(23, 7), 77);
+        deep.undo();
+        Sentence.none("HELD no more", deep, z -> z.page(23, 7));
         ShadowSpaces y = briefly();
         y.heard(0, 0);
         y.saw(0, 0, 0);

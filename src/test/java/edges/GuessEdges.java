@@ -110,8 +110,12 @@ final class GuessEdges {
         due("it can be heard again", x.heard(0, 1), 1);
         due("that alone", x.fits(), 1);
         x.saw(0, 0, 0);
+        x.heard(3, 5);
         x.forget();
         due("what was seen stays", x.count(7), 1);
+        due("nothing is left of what was heard", x.fits(), 6);
+        x.heard(2, 0);
+        due("nor behind what is heard then", x.fits(), 6);
     }
 
     private static void fits() {
@@ -135,6 +139,14 @@ final class GuessEdges {
         Sentence.told("OBJECT 2 alone", only(0, 2), y -> y.fits(), 1, 2, 0);
         Sentence.told("PAGE 3 alone", only(1, 3), y -> y.fits(), 1, 0, 3);
         Sentence.told("nothing", only(1, 7), y -> y.fits(), 0);
+    }
+
+    /** Four FRAMES of like values in OBJECTS and PAGES of their own; SPACE 0 has two of them. */
+    private static ShadowSpaces spread() {
+        ShadowSpaces x = Build.calm("0055", "00....55", "00......55");
+        x.forks(0);
+        x.writes(0, 1, 55);
+        return x;
     }
 
     private static ShadowSpaces only(int what, int v) {
@@ -203,6 +215,7 @@ final class GuessEdges {
         Sentence.question("a PAGE", () -> Build.calm("001111"), x -> x.asks(), 100, 1);
         Sentence.question("PAGE 3", () -> Build.calm("00......11..22"), x -> x.asks(), 103, 1);
         Sentence.question("tens", () -> Build.calm("0011223344"), x -> x.asks(), 203, 2);
+        Sentence.question("a SPACE", GuessEdges::spread, x -> x.asks(), 300, 2);
         Sentence.question("of one anything: the least", () -> Build.calm("0011"), x -> x.asks(), 0, 1);
         Sentence.question("12 were heard", () -> heardOf(12), x -> x.asks(), 100, 3);
         says(35, "the ROW: how many at most.");
@@ -275,8 +288,13 @@ final class GuessEdges {
         due("it can be seen again", full.saw(4, 3, 1), 1);
         due("that alone", full.laws(), 16);
         full.heard(0, 0);
+        full.saw(0, 0, 1);
         full.denies();
         due("what was heard stays", full.count(6), 1);
+        due("nothing is left of what was seen", full.laws(), 49);
+        full.saw(0, 0, 0);
+        due("nor behind what is seen then", full.laws(), 49);
+        Sentence.told("nor for what to look at", full, y -> y.looks(), 45, 25);
     }
 
     private static ShadowSpaces sawOften(int n) {

@@ -323,6 +323,12 @@ final class HoldEdges {
         Sentence.question("two COLLAPSES, a BYPASS", HoldEdges::untidy, x -> x.would(0), 3, 2, 1, 2, 4);
         Sentence.question("nothing", HoldEdges::some, x -> x.would(0), 0, 0, 0, 1, 3);
         Sentence.question("whatever THE RULE is", () -> Build.deepen(Build.calm("00"), 0, 23), x -> x.would(0), 23, 23, 0, 1, 1);
+        ShadowSpaces often = untidy();
+        for (int i = 0; i < 3; i++) {
+            Sentence.told("as often as it is asked", often, x -> x.would(0), 3, 2, 1, 2, 4);
+        }
+        often.tidies(0);
+        Sentence.told("behind tidies()", often, x -> x.would(0), 0, 0, 0, 2, 4);
         says(27, "NONE: none such.");
         for (int wrong : WRONG) {
             Sentence.refused("SPACE " + wrong, HoldEdges::some, x -> x.would(wrong), -1);

@@ -250,6 +250,15 @@ final class SpaceEdges {
         due("another one", Check.tell(x, "n+6").rule() + x.space(0, 3), 107);
         due("40 signs", Check.tell(x, FORTY).rule(), 0);
         due("all are taken", x.space(0, 3), 129);
+        for (String wrong : new String[] {"-x", "--", "((", "(((((", "1+", "2*(", "1<", "1<(2<", "1<2<", "999", "12n", "3-(4", ")", "1000"}) {
+            for (String right : new String[] {"5", "2-3*4", "(1<2)<3", "-7", ""}) {
+                ShadowSpaces one = Build.calm("00");
+                ShadowSpaces other = Build.calm("00");
+                Check.tell(one, wrong).rule();
+                due("nothing is left of " + wrong, Check.tell(one, right).rule(), Check.tell(other, right).rule());
+                due(right + " behind " + wrong, one.space(0, 3), other.space(0, 3));
+            }
+        }
         Sentence.leavesRow("nothing is told", SpaceEdges::some, y -> Check.tell(y, "1").rule());
         due("not to be undone", x.count(8), 8);
         x.undo();

@@ -50,6 +50,8 @@ final class StormEdges {
         Sentence.question("SPACE 2 behind it", () -> deep("s=2"), x -> x.storm(0, 2), 4, 3, 3);
         Sentence.question("the least that ended", () -> holed("s=1"), x -> x.storm(0, 1), 4, 3, 3);
         Sentence.question("then behind all", () -> holed("s=3"), x -> x.storm(0, 2), 5, 4, 4);
+        Sentence.question("SPACE 0", StormEdges::without0, x -> x.storm(1, 1), 2, 2, 2);
+        Sentence.question("SPACE 0, then SPACE 2", StormEdges::without0, x -> x.storm(1, 2), 3, 3, 3);
         Sentence.question("PAGE 0", () -> deep("p=0"), x -> x.storm(0, 1), 3, 2, 2);
         Sentence.question("no other PAGE", () -> deep("p>0"), x -> x.storm(0, 5), 9, 9, 6);
         Sentence.question("right away: o is 6 by the second", () -> deep("o=6"), x -> x.storm(0, 2), 4, 3, 3);
@@ -77,6 +79,12 @@ final class StormEdges {
         Check.tell(x, "0099").spaces();
         x.ends(1);
         Check.rule(x, rule);
+        return x;
+    }
+
+    private static ShadowSpaces without0() {
+        ShadowSpaces x = Build.calm("0011", "0022");
+        x.ends(0);
         return x;
     }
 

@@ -143,6 +143,12 @@ final class TermEdges {
         due("it is there no more", y.count(1), 1);
         due("nor its FRAMES", y.count(2), 1);
         due("nobody's COPY", y.object(0, 2), 24);
+        ShadowSpaces late = Build.calm("20", "00");
+        late.reads(0, 3);
+        late.ends(0);
+        due("nothing of it is AWAITED", late.count(5), 0);
+        Check.tell(late, "20").spaces();
+        due("nor of what comes", late.object(0, 6), 0);
         due("what comes has nothing of it", Check.tell(y, "07").spaces(), 1);
         due("HELD, SHADOW, AWAITED", y.object(1, 0) * 10000 + y.object(1, 1) * 100 + y.object(1, 6), 2400);
         says("then others that have none by that likewise.");
@@ -174,7 +180,9 @@ final class TermEdges {
         due("7 tens and 6", x.reads(1, 6), 76);
         due("HELD", x.page(1, 6), 76);
         due("a FRAME", x.count(2), frames + 1);
-        due("the least: 0", Check.with("10").reads(0, 0), 0);
+        ShadowSpaces nought = Check.with("10");
+        due("the least: 0", nought.reads(0, 0), 0);
+        due("that is HELD, too", nought.object(0, 0), 1);
         due("the most: 97", Check.with("19").reads(0, 7), 97);
         x.forks(1);
         due("by the last one, not by the TOP", x.reads(5, 2), 72);
@@ -202,6 +210,8 @@ final class TermEdges {
         due("41 signs", wrongRule(forty + "0"), -41);
         ShadowSpaces x = Check.with("0011");
         due("n is 1", x.space(0, 3), 100);
+        ShadowSpaces many = Check.with("000011223344556677", "00", "00", "00", "00");
+        due("n is 1, though there are more OBJECTS, FRAMES, PAGES", many.space(0, 3) + many.space(4, 3), 200);
         Build.deepen(x, 0, 2);
         due("n is 3", x.space(0, 3), 100);
         due("nothing was TIDIED", x.space(0, 2), 3);
@@ -225,6 +235,11 @@ final class TermEdges {
         }
         due("a second one at its own depth", wrongRule("(1<2)+(3<4)<5"), 0);
         due("and no third", wrongRule("(1<2)+(3<4)<5<6"), -14);
+        due("inside of one", wrongRule("(1<2<3)"), -5);
+        due("inside of two", wrongRule("((1<2<3))"), -6);
+        due("inside of three", wrongRule("(((1<2<3)))"), -7);
+        due("inside of four", wrongRule("((((1<2<3))))"), -8);
+        due("one at each depth", wrongRule("((((1<2)<3)<4)<5)<6"), 0);
         due("of none it has one", wrongRule("<1"), -1);
         due("of one it has two", wrongRule("1<"), -3);
     }
@@ -448,6 +463,13 @@ final class TermEdges {
         says("COPY of the TOP is the new one;");
         due("COPY", x.object(1, 2), 3);
         due("of the COPY none", x.object(3, 2), 24);
+        ShadowSpaces back = Build.calm("0011", "0022", "10");
+        back.ends(0);
+        due("SPACE 0 comes", back.forks(1), 0);
+        due("both SHARE", back.space(0, 1) + back.space(1, 1), 2);
+        back.ends(0);
+        due("SPACE 0 comes", back.forks(2), 0);
+        due("it SHARES", back.space(0, 1) * 10 + back.space(2, 1), 10);
         says("that is TOP of the other SPACE, which SHARES.");
         due("TOP", x.space(4, 0), 3);
         due("SHARES", x.space(4, 1), 1);

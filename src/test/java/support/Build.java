@@ -24,7 +24,7 @@ final class Build {
 
     /** FRAMES up to a number of all, in as few OBJECTS more as can be. */
     static ShadowSpaces fill(ShadowSpaces x, int space, int frames) {
-        while (x.count(2) < frames) {
+        for (int i = 0; i < 24 && x.count(2) < frames; i++) {
             layer(x, space, Math.min(8, frames - x.count(2)));
         }
         return x;
@@ -32,17 +32,15 @@ final class Build {
 
     /** OBJECTS and FRAMES up to numbers of all. */
     static ShadowSpaces crowd(ShadowSpaces x, int space, int objects, int frames) {
-        int left = objects - Integer.bitCount(x.count(1));
-        while (left > 0) {
+        for (int left = objects - Integer.bitCount(x.count(1)); left > 0; left--) {
             layer(x, space, Math.max(1, (frames - x.count(2)) / left));
-            left--;
         }
         return x;
     }
 
     /** SPACES up to 6, of PAGER 0: no OBJECT comes. */
     static ShadowSpaces fork(ShadowSpaces x, int space) {
-        while (x.count(0) != 63) {
+        for (int i = 0; i < 6 && x.count(0) != 63; i++) {
             x.forks(space);
         }
         return x;
