@@ -204,7 +204,7 @@ final class GuessEdges {
         Sentence.Made[] mades = {GuessEdges::some, () -> Build.calm("0011"), () -> Build.calm("001122"), () -> Build.calm("00", "00", "00112233"),
             () -> Build.calm("001010101010101010"), () -> Build.calm("000919293949"), () -> Build.deepen(Build.calm("0011"), 0, 6),
             () -> Build.fork(Build.calm("00112233", "0044"), 0), () -> Build.calm("00..............77", "00..............88"),
-            () -> Build.calm("0099", "0099", "0099", "0099", "0099", "0099"), StormyMade::make};
+            () -> Build.calm("0099", "0099", "0099", "0099", "0099", "0099"), GuessEdges::shared};
         for (Sentence.Made made : mades) {
             int[] best = bestQuestion(framesOf(made.make()));
             Sentence.question("best of " + framesOf(made.make()).size(), made, x -> x.asks(), best[0], best[1]);
@@ -227,19 +227,17 @@ final class GuessEdges {
     }
 
     /** SPACES that share in many ways. */
-    private static final class StormyMade {
-        static ShadowSpaces make() {
-            ShadowSpaces x = Build.calm("001122334455667788");
-            x.forks(0);
-            x.forks(0);
-            x.forks(0);
-            x.writes(1, 0, 11);
-            x.writes(1, 1, 11);
-            x.writes(2, 0, 11);
-            x.writes(2, 2, 91);
-            x.writes(3, 3, 91);
-            return x;
-        }
+    private static ShadowSpaces shared() {
+        ShadowSpaces x = Build.calm("001122334455667788");
+        x.forks(0);
+        x.forks(0);
+        x.forks(0);
+        x.writes(1, 0, 11);
+        x.writes(1, 1, 11);
+        x.writes(2, 0, 11);
+        x.writes(2, 2, 91);
+        x.writes(3, 3, 91);
+        return x;
     }
 
     // ---- laws

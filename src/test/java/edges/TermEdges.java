@@ -266,7 +266,8 @@ final class TermEdges {
             "9+5/0", 9, "7/0*3", 0, "7/2", 3, "-7/2", -3, "7/-2", -3, "-7/-2", 3, "(0-7)/2", -3, "1/2", 0, "-1/2", 0);
         says("then - ahead of a thing (any many);");
         reckon("-5", -5, "--5", 5, "---5", -5, "----------------------5", 5, "-2*3", -6, "2*-3", -6, "2--3", 5, "2---3", -1,
-            "2+-3", -1, "-(1+2)", -3, "-2+3", 1, "-n", -1, "--(1<2)", 1, "6/-3", -2, "-1<0", 1, "0>-1", 1);
+            "2+-3", -1, "-(1+2)", -3, "-2+3", 1, "-n", -1, "--(1<2)", 1, "6/-3", -2, "6/-3*2", -4, "2*-7/2", -7,
+            "7--3*2", 13, "-7/2*2", -6, "-1<0", 1, "0>-1", 1);
         due("39 of them", wrongRule("-".repeat(39) + "n"), 0);
         due("of no thing", wrongRule("-"), -2);
         due("nor of another sign", wrongRule("-+1"), -2);
@@ -415,9 +416,10 @@ final class TermEdges {
         due("far above", tidiesBy("999", 1), 1);
         due("t behind the WRITE", tidiesBy("t=2", 1), 1);
         due("t ahead of it", tidiesBy("t=1", 1), 3);
-        due("f behind it", tidiesBy("f=4", 1), 1);
-        due("w behind it", tidiesBy("w=3", 1), 1);
-        due("w ahead of it", tidiesBy("w=2", 1), 3);
+        due("f behind it", tidiesBy("f=3", 1), 1);
+        due("f ahead of it", tidiesBy("f=2", 1), 3);
+        due("w behind it", tidiesBy("w=4", 1), 1);
+        due("w ahead of it", tidiesBy("w=3", 1), 3);
         due("its own number", tidiesBy("s=0", 1), 1);
         due("the PAGE", tidiesBy("p=1", 1), 1);
         ShadowSpaces z = Build.deepen(Build.calm("001122"), 0, 1);
@@ -434,12 +436,12 @@ final class TermEdges {
         due("FETCHED below it: HELD not", w.writes(1, 4, 1), 2);
     }
 
-    /** A CHAIN of three, of which the TOP HOLDS PAGE 0; OBJECTS of it behind a WRITE, by a RULE. */
+    /** A CHAIN of three with two FRAMES, of which the TOP HOLDS PAGE 0, behind three WRITES: OBJECTS of it behind one more. */
     private static int tidiesBy(String rule, int page) {
         ShadowSpaces x = Build.deepen(Build.calm("00"), 0, 2);
         x.ends(x.forks(0));
         x.writes(0, 0, 3);
-        Check.rule(x, rule.equals("f=4") ? "f=3" : rule.equals("w=3") ? "w=4" : rule.equals("w=2") ? "w=3" : rule);
+        Check.rule(x, rule);
         return x.writes(0, page, 5);
     }
 
