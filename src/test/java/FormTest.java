@@ -10,6 +10,8 @@ import java.nio.file.Path;
 import java.util.ArrayList;
 import java.util.Arrays;
 import java.util.List;
+import java.util.Map;
+import java.util.TreeMap;
 import java.util.TreeSet;
 import java.util.regex.Matcher;
 import java.util.regex.Pattern;
@@ -27,6 +29,7 @@ public final class FormTest {
         members();
         words();
         sizes();
+        depths();
         Check.finish();
     }
 
@@ -149,5 +152,61 @@ public final class FormTest {
                 Check.due("line " + start + ": a short method", i - start <= 60 || lines.get(start).contains(" class "), true);
             }
         }
+    }
+
+    /** Methods are told apart by name alone: like names of several classes count as one, the deepest of them. */
+    private static void depths() throws IOException {
+        Map<String, TreeSet<String>> calls = callsOf(Files.readAllLines(SOURCE, StandardCharsets.UTF_8));
+        Check.due("each method was found", calls.keySet().containsAll(publicNames()), true);
+        for (String name : calls.keySet()) {
+            int deep = depth(calls, name, 1);
+            Check.due(name + " goes eight deep at most, and calls itself nowhere", deep <= MOST_DEEP, true);
+        }
+    }
+
+    private static final int MOST_DEEP = 8;
+
+    private static TreeSet<String> publicNames() {
+        TreeSet<String> names = new TreeSet<>();
+        for (Method method : ShadowSpaces.class.getDeclaredMethods()) {
+            if (Modifier.isPublic(method.getModifiers())) {
+                names.add(method.getName());
+            }
+        }
+        return names;
+    }
+
+    /** What each method calls of the file, by name. */
+    private static Map<String, TreeSet<String>> callsOf(List<String> lines) {
+        Pattern head = Pattern.compile("^(    |        )(?:(?:public|private|static) )*(?:[\\w\\[\\]]+ )?(\\w+)\\(.*\\{$");
+        Pattern call = Pattern.compile("\\b([a-z]\\w*)\\(");
+        Map<String, TreeSet<String>> calls = new TreeMap<>();
+        String end = null;
+        TreeSet<String> called = new TreeSet<>();
+        for (String line : lines) {
+            Matcher m = head.matcher(line);
+            if (end == null && m.matches()) {
+                end = m.group(1) + "}";
+                called = calls.computeIfAbsent(m.group(2), k -> new TreeSet<>());
+            } else if (line.equals(end)) {
+                end = null;
+            } else if (end != null) {
+                call.matcher(line.replaceAll("\\b(Math|Integer|Long|System|digits)\\.\\w+\\(", "(")).results()
+                    .map(r -> r.group(1)).forEach(called::add);
+            }
+        }
+        for (TreeSet<String> names : calls.values()) {
+            names.retainAll(calls.keySet());
+        }
+        return calls;
+    }
+
+    /** Whoever calls himself comes beyond the most that may be, and is looked at no further. */
+    private static int depth(Map<String, TreeSet<String>> calls, String name, int open) {
+        int deepest = open;
+        for (String called : open > MOST_DEEP ? new TreeSet<String>() : calls.get(name)) {
+            deepest = Math.max(deepest, depth(calls, called, open + 1));
+        }
+        return deepest;
     }
 }
